@@ -787,6 +787,7 @@ public final class TurningTrees {
         private final int[] asks;
         private final int[] asksBefore;
         private final int[] least;
+        private final int[] tops;
         int sum;
         int root;
 
@@ -795,6 +796,7 @@ public final class TurningTrees {
             asks = new int[KEYS];
             asksBefore = new int[ENDS];
             least = new int[ENDS * ENDS];
+            tops = new int[KEYS];
             sum = 0;
             root = NONE;
         }
@@ -804,14 +806,11 @@ public final class TurningTrees {
             int found = gatherKeys(shape);
             for (int width = 1; width <= found && width <= KEYS; width++) {
                 for (int from = 0; from + width <= found && from < KEYS; from++) {
-                    int to = from + width;
-                    int below = sumBelow(from, to, lowestTop(from, to));
-                    int here = at(asksBefore, to) - at(asksBefore, from);
-                    put(least, from * ENDS + to, below + here);
+                    settle(from, from + width);
                 }
             }
             sum = at(least, found);
-            root = found == 0 ? NONE : at(keys, lowestTop(0, found));
+            root = found == 0 ? NONE : at(keys, at(tops, 0));
         }
 
         private void countAsks(Row row) {
@@ -834,10 +833,22 @@ public final class TurningTrees {
             return found;
         }
 
+        private void settle(int from, int to) {
+            int top = lowestTop(from, to);
+            int asksHere = at(asksBefore, to) - at(asksBefore, from);
+            put(least, from * ENDS + to, sumBelow(from, to, top) + asksHere);
+            put(tops, from, top);
+        }
+
+        // The least top lies between those of the two spans that are shorter by one key (Knuth 1971),
+        // so only the tops of the latest width are held, each at the place where its span begins.
         private int lowestTop(int from, int to) {
-            int lowest = from;
-            int lowestSum = sumBelow(from, to, from);
-            for (int top = from + 1; top < to; top++) {
+            boolean single = to - from == 1;
+            int first = single ? from : at(tops, from);
+            int last = single ? from : at(tops, from + 1);
+            int lowest = first;
+            int lowestSum = sumBelow(from, to, first);
+            for (int top = first + 1; top <= last && top < to; top++) {
                 int topSum = sumBelow(from, to, top);
                 if (topSum < lowestSum) {
                     lowest = top;
