@@ -19,7 +19,8 @@ public final class FaceTest {
 
     public static void main(String[] args) throws Exception {
         Class<?> it = TurningTrees.class;
-        expect("the class is public and final", Modifier.isPublic(it.getModifiers()) && Modifier.isFinal(it.getModifiers()));
+        expect("the class is public", Modifier.isPublic(it.getModifiers()));
+        expect("the class is final", Modifier.isFinal(it.getModifiers()));
         methods(it);
         constructors(it);
         fields(it);
@@ -60,7 +61,8 @@ public final class FaceTest {
     private static void constructors(Class<?> it) {
         Constructor<?>[] all = it.getDeclaredConstructors();
         expect("one constructor", all.length == 1);
-        expect("it is public and takes nothing", Modifier.isPublic(all[0].getModifiers()) && all[0].getParameterCount() == 0);
+        expect("it is public", Modifier.isPublic(all[0].getModifiers()));
+        expect("it takes nothing", all[0].getParameterCount() == 0);
     }
 
     private static void fields(Class<?> it) throws Exception {
