@@ -120,6 +120,8 @@ public final class BoundaryActsTest {
             splitInto(x, 0, "-", "10(5,20(15,-))");
             x.with(STILL, 0, 63, 62).go("split 0 63 = 1").shape(1, "63");
             x.shape(0, "0(-,62)");
+            Run y = x.anew().with(STILL, 6, 5, 7).go("split 0 0 = 1; add 0 6 = 0");
+            y.shape(0, "6");
             for (int kind = 0; kind < KINDS; kind++) {
                 x.anew().with(kind).go("split 0 0 = 1").due("count 1 0", kind);
                 x.anew().with(kind, 1, 2, 3).go("split 0 2 = 1; count 0 1 = 1; count 1 1 = 2").due("count 1 0", kind);
@@ -156,6 +158,8 @@ public final class BoundaryActsTest {
         s.holds("Of an empty one the other is what comes.", x -> {
             for (int kind = 0; kind < KINDS; kind++) {
                 x.anew().with(kind).with(kind).go("join 0 1 = true; count 0 1 = 0; count 1 1 = 0; count 0 2 = -1");
+                x.anew().with(kind).with(kind, 0).go("join 0 1 = true; count 0 2 = 0; look 0 0 4 = 1; look 1 0 0 = throws");
+                x.anew().with(kind).with(kind, 63).go("join 0 1 = true; count 0 2 = 63; look 1 63 0 = throws");
             }
             joinWithEmpty(x.anew().with(STILL, 1, 2, 3).with(STILL), 0);
             joinWithEmpty(x.anew().with(SPLAY, 3, 2, 1).with(SPLAY), 2);
@@ -168,6 +172,9 @@ public final class BoundaryActsTest {
             x.with(STILL, 1).with(STILL, 5, 6).go("join 0 1 = true; count 1 0 = 0; count 1 1 = 0; count 1 2 = -1");
             x.go("count 1 3 = 0; count 1 7 = 0; look 1 5 0 = throws; pages 1 1 5 = -1; best 1 1 = -1; ask 1 5 = 0");
             x.go("add 1 5 = 0; count 1 1 = 1; add 1 6 = 1; look 1 6 1 = 5; look 0 6 1 = 5; tree 0 = 2");
+            // what hung on a key of it does not hang there when the key comes again
+            Run y = x.anew().with(STILL, 1).with(STILL, 6, 5, 7).go("join 0 1 = true; add 1 6 = 0");
+            y.shape(1, "6");
         });
     }
 

@@ -128,6 +128,7 @@ public final class BoundaryBoundsTest {
             }
             // 0 is alone each time, 63 with 0
             y.go("sweep 0 = 150");
+            x.anew().with(STILL).go("ask 0 62 = 0; ask 0 63 = 0; sweep 0 = 3");
         });
         s.holds("and its moment is m from there on", x -> {
             // 10 and 20 both are touched at 2: from 30 down 20 is touched, and 10 no more
@@ -138,7 +139,10 @@ public final class BoundaryBoundsTest {
         s.holds("likewise from x up", x -> {
             // 20 at 2 and 10 at 3: what 10 made of m on the way down is not held against 20
             x.with(STILL).go("ask 0 20 = 0; ask 0 10 = 0; ask 0 10 = 0; sweep 0 = 4; ask 0 15 = 0; sweep 0 = 7");
+            // 20 is touched at 2, as 10 is: at 3 it is alone
+            x.anew().with(STILL).go("ask 0 20 = 0; ask 0 10 = 0; sweep 0 = 3; ask 0 20 = 0; sweep 0 = 4");
             x.anew().with(STILL).go("ask 0 63 = 0; ask 0 0 = 0; sweep 0 = 3");
+            x.anew().with(STILL).go("ask 0 1 = 0; ask 0 0 = 0; sweep 0 = 3");
         });
     }
 
@@ -159,6 +163,8 @@ public final class BoundaryBoundsTest {
             nine(x).go("pages 0 2 5 = 1; pages 0 2 20 = 2; pages 0 3 20 = 1; pages 0 3 3 = 2; pages 0 4 3 = 1; pages 0 4 7 = 2");
             x.go("pages 0 5 7 = 1; pages 0 5 15 = 2; pages 0 6 15 = 1; pages 0 6 30 = 2; pages 0 7 30 = 1; pages 0 7 1 = 2");
             x.go("pages 0 8 1 = 1; pages 0 8 40 = 2; pages 0 9 40 = 1");
+            // what a greater page held ahead of it is not on a lesser one
+            x.go("pages 0 16 40 = 1; pages 0 8 40 = 2; pages 0 7 1 = 2; pages 0 16 7 = 1; pages 0 4 7 = 2; pages 0 1 5 = 2");
         });
         s.holds("each that hangs on one that it has", x -> {
             // the page of 20 has 15, 30 too if it may; that of 3 has 1, and not 7 beside it

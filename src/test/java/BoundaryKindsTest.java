@@ -123,6 +123,10 @@ public final class BoundaryKindsTest {
         s.holds("else two TURNS of it", x -> {
             x.with(SPLAY, 1, 3).go("add 0 2 = 2; count 0 4 = 3").shape(0, "2(1,3)");
             x.anew().with(SPLAY, 3, 1).go("add 0 2 = 2; count 0 4 = 3").shape(0, "2(1,3)");
+            // both TURNS come ahead of what is above: one TURN and a look anew would go on at the same side
+            Run y = x.anew().with(SPLAY, 2).with(SPLAY, 3).with(SPLAY, 4, 6).go("join 1 2 = true; join 0 1 = true");
+            y.shape(0, "2(-,3(-,6(4,-)))");
+            y.go("ask 0 4 = 4; count 0 4 = 3").shape(0, "4(2(-,3),6)");
         });
     }
 
@@ -199,6 +203,7 @@ public final class BoundaryKindsTest {
             leaveOf(x, 10, 6).shape(0, "3(1(-,2),5(4,6))");
             leaveOf(x, 11, 7).shape(0, "4(2(1,3),6(5,7))");
             leaveOf(x, 13, 8).shape(0, "4(2(1,3),6(5,7(-,8)))");
+            leaveOf(x, 63, 41).go("count 0 2 = 21; count 0 3 = 6; look 0 21 2 = 10; look 0 21 3 = 31; look 0 41 1 = 40");
         });
     }
 

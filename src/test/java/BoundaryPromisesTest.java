@@ -180,6 +180,10 @@ public final class BoundaryPromisesTest {
                 x.go("join 0 T = false; join T 0 = false; join T T = false".replace("T", "" + tree));
             }
             x.goAndChangeNothing("join 0 1 = false; join 1 0 = false; join 0 8 = false; join -1 0 = false");
+            // where two could be joined, no other number stands for either
+            Run y = x.anew().with(ROOT, 1, 2, 3).with(ROOT, 9);
+            y.goAndChangeNothing("join 0 9 = false; join 8 1 = false; join -8 1 = false; join 0 -7 = false; join 0 2 = false");
+            y.go("join 0 1 = true");
         });
         s.holds("the same one", x -> {
             x.with(ROOT, 1, 2, 3).with(ROOT).goAndChangeNothing("join 0 0 = false; join 1 1 = false");

@@ -82,6 +82,7 @@ public final class BoundaryTellingsTest {
         s.holds("3: greatest DEPTH (0)", x -> {
             x.with(STILL).go("count 0 3 = 0; add 0 5 = 0; count 0 3 = 1; remove 0 5 = 1; count 0 3 = 0");
             chainOfAll(x.anew()).go("count 0 3 = 64; remove 0 63 = 64; count 0 3 = 63");
+            x.anew().with(STILL, 1, 0).go("count 0 3 = 2");
         });
         s.holds("4: TURNS", x -> {
             x.with(UP).go("count 0 4 = 0; add 0 1 = 0; count 0 4 = 0; add 0 2 = 1; count 0 4 = 1; ask 0 2 = 1; count 0 4 = 1");
