@@ -5,7 +5,6 @@ import java.util.Arrays;
 import java.util.HashMap;
 import java.util.List;
 import java.util.Map;
-import java.util.NoSuchElementException;
 import java.util.Random;
 import java.util.TreeMap;
 import java.util.TreeSet;
@@ -15,15 +14,15 @@ import java.util.TreeSet;
  * it writes down for each key only the one above it, and works all else out anew each time.
  */
 public final class ModelTest {
-    private static final int THROWN = Integer.MIN_VALUE + 7;
+    private static final String THROWN = "throws NoSuchElementException";
     private static final int RUNS = 210;
-    private static final int CALLS = 300;
+    private static final int CHANGES = 300;
 
     private static int wrong = 0;
 
     public static void main(String[] args) {
         for (int run = 0; run < RUNS && wrong < 20; run++) {
-            new Run(run).go();
+            new SeededRun(run).go();
         }
         System.out.println(wrong == 0 ? "the class and the model agree" : wrong + " answers are not the model's");
         if (wrong != 0) {
@@ -32,17 +31,17 @@ public final class ModelTest {
     }
 
     /** One run: the same calls go to the class and to the model. */
-    private static final class Run {
+    private static final class SeededRun {
         final int number;
         final Random random;
         final int keys;
         final int firstKind;
         final int kinds;
         final int growth;
-        final TurningTrees real = new TurningTrees();
+        final Real real = new Real();
         final Model model = new Model();
 
-        Run(int number) {
+        SeededRun(int number) {
             this.number = number;
             random = new Random(9000 + number);
             keys = new int[] {8, 20, 64}[number % 3];
@@ -53,7 +52,7 @@ public final class ModelTest {
 
         void go() {
             int ownWrong = wrong;
-            for (int i = 0; i < CALLS && wrong == ownWrong; i++) {
+            for (int i = 0; i < CHANGES && wrong == ownWrong; i++) {
                 change();
                 compareTree(random.nextInt(8));
             }
@@ -84,24 +83,24 @@ public final class ModelTest {
             int chance = random.nextInt(30 + 5 * growth);
             if (chance == 0 || model.trees.isEmpty()) {
                 int kind = someKind();
-                same("tree", real.tree(kind), model.tree(kind), kind);
+                changed(model.tree(kind), "tree", kind);
             } else if (chance == 1) {
-                same("split", real.split(tree, key), model.split(tree, key), tree, key);
+                changed(model.split(tree, key), "split", tree, key);
             } else if (chance < 5) {
                 int other = someTree();
-                same("join", real.join(tree, other) ? 1 : 0, model.join(tree, other) ? 1 : 0, tree, other);
+                changed(model.join(tree, other), "join", tree, other);
             } else if (chance < 10) {
                 joinNext(tree);
             } else if (chance < 16) {
-                same("remove", realRemove(tree, key), model.remove(tree, key), tree, key);
+                changed(model.remove(tree, key), "remove", tree, key);
             } else if (chance < 24) {
-                same("ask", realAsk(tree, key), model.ask(tree, key), tree, key);
+                changed(model.ask(tree, key), "ask", tree, key);
             } else if (chance == 24 && random.nextInt(6) == 0) {
-                same("clear", real.clear(tree), model.clear(tree), tree);
+                changed(model.clear(tree), "clear", tree);
             } else if (chance == 25 && random.nextInt(3) == 0) {
-                same("keep", real.keep(tree), model.keep(tree), tree);
+                changed(model.keep(tree), "keep", tree);
             } else {
-                same("add", real.add(tree, key), model.add(tree, key), tree, key);
+                changed(model.add(tree, key), "add", tree, key);
             }
         }
 
@@ -115,71 +114,102 @@ public final class ModelTest {
                 ModelTree second = model.trees.get(other);
                 if (other != tree && second.kind == first.kind && second.above.isEmpty() && !first.above.isEmpty()) {
                     int key = first.above.lastKey() + 1 + random.nextInt(2);
-                    same("add", real.add(other, key), model.add(other, key), other, key);
-                    same("join", real.join(tree, other) ? 1 : 0, model.join(tree, other) ? 1 : 0, tree, other);
+                    changed(model.add(other, key), "add", other, key);
+                    changed(model.join(tree, other), "join", tree, other);
                     return;
                 }
             }
         }
 
-        int realAsk(int tree, int key) {
-            try {
-                return real.ask(tree, key);
-            } catch (NoSuchElementException e) {
-                return THROWN;
-            }
-        }
-
-        int realRemove(int tree, int key) {
-            try {
-                return real.remove(tree, key);
-            } catch (NoSuchElementException e) {
-                return THROWN;
-            }
-        }
-
-        int realLook(int tree, int key, int what) {
-            try {
-                return real.look(tree, key, what);
-            } catch (NoSuchElementException e) {
-                return THROWN;
-            }
-        }
-
         void compareTree(int tree) {
             for (int what = -1; what <= 9; what++) {
-                same("count", real.count(tree, what), model.count(tree, what), tree, what);
+                told(model.count(tree, what), "count", tree, what);
             }
             for (int key = -1; key <= 64; key++) {
-                for (int what = -1; what <= 5; what++) {
-                    same("look", realLook(tree, key, what), model.look(tree, key, what), tree, key, what);
-                }
+                compareKey(tree, key);
             }
-            same("interleave", real.interleave(tree), model.interleave(tree), tree);
-            same("sweep", real.sweep(tree), model.sweep(tree), tree);
+            told(model.interleave(tree), "interleave", tree);
+            told(model.sweep(tree), "sweep", tree);
             if (random.nextInt(10) == 0) {
                 compareDear(tree);
             }
         }
 
-        void compareDear(int tree) {
-            for (int what = -1; what <= 2; what++) {
-                same("best", real.best(tree, what), model.best(tree, what), tree, what);
+        // Each exception takes its time, so a key that is not there is looked at but once.
+        void compareKey(int tree, int key) {
+            if (model.of(tree) == null || !model.of(tree).above.containsKey(key)) {
+                int what = random.nextInt(5);
+                told(THROWN, "look", tree, key, what);
+                return;
             }
-            int b = random.nextInt(20) - 1;
-            for (int key = -1; key <= 64; key++) {
-                same("pages", real.pages(tree, b, key), model.pages(tree, b, key), tree, b, key);
-                int k = random.nextInt(23) - 1;
-                same("kept", real.kept(k, key), model.kept(k, key), k, key);
+            for (int what = -1; what <= 5; what++) {
+                told(model.look(tree, key, what), "look", tree, key, what);
             }
         }
 
-        void same(String call, int got, int want, int... arguments) {
-            if (got != want) {
+        void compareDear(int tree) {
+            for (int what = -1; what <= 2; what++) {
+                told(model.best(tree, what), "best", tree, what);
+            }
+            int b = random.nextInt(20) - 1;
+            for (int key = -1; key <= 64; key++) {
+                told(model.pages(tree, b, key), "pages", tree, b, key);
+                int k = random.nextInt(23) - 1;
+                told(model.kept(k, key), "kept", k, key);
+            }
+        }
+
+        void changed(Object want, String name, int... arguments) {
+            same(want, real.change(name, arguments), name, arguments);
+        }
+
+        void told(Object want, String name, int... arguments) {
+            same(want, real.answer(name, arguments), name, arguments);
+        }
+
+        void same(Object want, String got, String name, int... arguments) {
+            if (!got.equals(want.toString())) {
                 wrong++;
-                System.out.println("run " + number + ": " + call + Arrays.toString(arguments) + " answered " + got
+                System.out.println("run " + number + ": " + name + Arrays.toString(arguments) + " answered " + got
                     + ", the model answers " + want);
             }
+        }
+    }
+
+    /** The class within its 512 calls: when they are used up, a new object goes through the same changes. */
+    private static final class Real {
+        private static final int MOST_CALLS = 512;
+
+        private record Change(String name, int[] arguments) {
+        }
+
+        private final List<Change> changes = new ArrayList<>();
+        private TurningTrees trees = new TurningTrees();
+        private int calls = 0;
+
+        String change(String name, int... arguments) {
+            String answer = answer(name, arguments);
+            changes.add(new Change(name, arguments));
+            if (changes.size() >= MOST_CALLS) {
+                throw new IllegalStateException("a run of " + MOST_CALLS + " changes leaves no call to look at them");
+            }
+            return answer;
+        }
+
+        String answer(String name, int... arguments) {
+            if (calls == MOST_CALLS) {
+                trees = new TurningTrees();
+                calls = 0;
+                for (Change change : changes) {
+                    call(change.name, change.arguments);
+                }
+            }
+            return call(name, arguments);
+        }
+
+        private String call(String name, int... arguments) {
+            calls++;
+            return Run.answer(trees, name, arguments);
         }
     }
 
@@ -237,15 +267,27 @@ public final class ModelTest {
         TreeSet<Integer> under(int top) {
             TreeSet<Integer> all = new TreeSet<>();
             for (int key : above.keySet()) {
-                if (way(key).contains(top)) {
+                if (isUnder(key, top)) {
                     all.add(key);
                 }
             }
             return all;
         }
 
+        boolean isUnder(int key, int top) {
+            int at = key;
+            while (at != -1 && at != top) {
+                at = above.get(at);
+            }
+            return at == top;
+        }
+
         int size(int key) {
-            return key == -1 ? 0 : under(key).size();
+            int size = 0;
+            for (int other : above.keySet()) {
+                size += key != -1 && isUnder(other, key) ? 1 : 0;
+            }
+            return size;
         }
 
         void turn(int key) {
@@ -481,11 +523,11 @@ public final class ModelTest {
             return it == null || !isKey(key) || it.above.containsKey(key) ? -1 : it.add(key);
         }
 
-        int ask(int tree, int key) {
+        Object ask(int tree, int key) {
             return of(tree) == null || !isKey(key) ? THROWN : of(tree).ask(key);
         }
 
-        int remove(int tree, int key) {
+        Object remove(int tree, int key) {
             return of(tree) == null || !isKey(key) ? THROWN : of(tree).remove(key);
         }
 
@@ -534,7 +576,7 @@ public final class ModelTest {
             return had;
         }
 
-        int look(int tree, int key, int what) {
+        Object look(int tree, int key, int what) {
             ModelTree it = of(tree);
             if (it == null || !it.above.containsKey(key) || what < 0 || what > 4) {
                 return THROWN;

@@ -124,14 +124,18 @@ final class Run {
         for (int i = 0; i < a.length; i++) {
             a[i] = Integer.parseInt(words[i + 1]);
         }
+        return answer(trees, words[0], a);
+    }
+
+    static String answer(TurningTrees trees, String name, int... a) {
         try {
-            return answer(words[0], a);
+            return called(trees, name, a);
         } catch (RuntimeException e) {
             return "throws " + e.getClass().getSimpleName();
         }
     }
 
-    private String answer(String name, int[] a) {
+    private static String called(TurningTrees trees, String name, int[] a) {
         return switch (name) {
             case "tree" -> "" + trees.tree(a[0]);
             case "add" -> "" + trees.add(a[0], a[1]);
